@@ -28,6 +28,7 @@ public final class LanguageTest {
         face();
         membersAndClasses();
         source();
+        nothingIsMadeByCalls();
         C.end();
     }
 
@@ -96,6 +97,21 @@ public final class LanguageTest {
                 boolean ofFace = c == WorldIndex.class && Modifier.isPublic(((Member) m).getModifiers());
                 C.holds("no other method of the face's names: " + m, ofFace || !names.contains(m.getName()));
             }
+        }
+    }
+
+    /** All calls of a run live in one room, so all rows are made with the object, and used again. */
+    private static void nothingIsMadeByCalls() throws Exception {
+        boolean constructing = false;
+        for (String line : Files.readAllLines(Path.of("src/main/java/WorldIndex.java"))) {
+            if (line.startsWith("    public WorldIndex()")) {
+                constructing = true;
+            } else if (line.equals("    }")) {
+                constructing = false;
+            }
+            boolean makes = Pattern.compile("\\bnew [A-Za-z]+[(\\[]").matcher(line).find();
+            boolean field = line.trim().startsWith("private final ");
+            C.holds("made with the object: " + line, !makes || field || constructing);
         }
     }
 

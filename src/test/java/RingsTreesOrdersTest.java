@@ -9,6 +9,7 @@ public final class RingsTreesOrdersTest {
         treeOfWet();
         treeRefusals();
         orders();
+        ordersOneBehindAnother();
         ordersByLanes();
         ordersRefusals();
         C.end();
@@ -137,6 +138,21 @@ public final class RingsTreesOrdersTest {
         order(Check.SEVEN, new int[] {6, 5, 6, 4, 6, 3, 6, 2, 6, 1, 6, 0}, 720, 6, 0, 1, 2, 3, 4, 5);
         order(Check.SEVEN, new int[] {0, 6, 1, 6, 2, 6, 3, 6, 4, 6, 5, 6, 5, 0, 5, 1, 5, 2, 5, 3}, 24 * 6,
             4, 5, 0, 1, 2, 3, 6);
+    }
+
+    /** No call may leave a two to the next. */
+    private static void ordersOneBehindAnother() {
+        WorldIndex x = Check.withBook(Check.FOUR);
+        for (int k = 0; k < 4; k++) {
+            int other = (k + 1) % 4;
+            Check.fill(x, 1, 2, other, k, k, k);
+            C.due("one two ahead of " + k, x.orders(1, 2, 0, 1, -1), 12);
+            C.due("and itself", x.orders(1, 2, 0, 2, -1), 0);
+            C.due("no twos", x.orders(1, 2, 0, 0, -1), 24);
+        }
+        Check.fill(x, 1, 2, 0, 0, 9, 9);
+        C.due("refused at the second two", x.orders(1, 2, 0, 2, -1), -1);
+        C.due("no twos behind it", x.orders(1, 2, 0, 0, 0), 0);
     }
 
     private static void ordersByLanes() {
