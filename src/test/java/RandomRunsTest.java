@@ -3,13 +3,16 @@ import java.util.Random;
 /** All promises: long runs of calls, drawn by fixed seeds, on WorldIndex and on Plain, call by call. */
 public final class RandomRunsTest {
     private static final Check C = new Check();
-    private static final int RUNS = 1500, CALLS = 300, MOST_WRONG = 20;
+    private static final int RUNS = 6000, MOST_WRONG = 20;
+    /** An object is promised nothing behind its 512th call; some are kept for a last look at its SLIPS or SHEETS. */
+    private static final int CALLS = 512, FOR_ONE_STEP = 70, FOR_SLIPS = 75, FOR_SHEETS = 256;
     private static final int[] WILD = {Integer.MIN_VALUE, Integer.MAX_VALUE, -9, -2, -1, 7, 60, 61, 99, 1 << 16};
 
     private final Random random;
     private final WorldIndex x = new WorldIndex();
     private final Plain p = new Plain();
     private final int run;
+    private int calls;
     private final StringBuilder told = new StringBuilder();
 
     private RandomRunsTest(int run) {
@@ -20,10 +23,18 @@ public final class RandomRunsTest {
     public static void main(String[] args) {
         for (int run = 0; run < RUNS && C.wrong() < MOST_WRONG; run++) {
             RandomRunsTest one = new RandomRunsTest(run);
-            for (int call = 0; call < CALLS && C.wrong() < MOST_WRONG; call++) {
+            int kept = run % 3 == 0 ? FOR_SHEETS : run % 3 == 1 ? FOR_SLIPS : 0;
+            while (one.calls <= CALLS - kept - FOR_ONE_STEP && C.wrong() < MOST_WRONG) {
                 one.next();
             }
-            one.lookAtAll();
+            if (run % 3 == 0) {
+                one.lookAtSheets();
+            } else if (run % 3 == 1) {
+                one.lookAtSlips();
+            }
+            if (one.calls > CALLS) {
+                throw new IllegalStateException("run " + run + " made " + one.calls + " calls");
+            }
         }
         C.end();
     }
@@ -55,6 +66,7 @@ public final class RandomRunsTest {
     }
 
     private void due(String call, long got, long want) {
+        calls++;
         C.due("run " + run + ": " + call, got, want);
     }
 
@@ -167,7 +179,7 @@ public final class RandomRunsTest {
         due("orders", x.orders(k, lane, i, n, -1), p.orders(k, lane, i, n, -1));
     }
 
-    private void lookAtAll() {
+    private void lookAtSlips() {
         for (int what = 0; what < 4; what++) {
             due("many", x.many(what), p.many(what));
         }
@@ -177,11 +189,17 @@ public final class RandomRunsTest {
             }
             due("tree", x.tree(k), p.tree(k));
         }
+    }
+
+    private void lookAtSheets() {
         for (int k = 0; k < 4; k++) {
+            int own = 0;
             for (int lane = 0; lane < 3; lane++) {
-                for (int i = 0; i <= 60; i++) {
-                    due("cell", x.cell(k, i, lane), p.cell(k, i, lane));
-                }
+                due("cell", x.cell(k, 0, lane), p.cell(k, 0, lane));
+                own = p.fault() == 2 ? own : lane;
+            }
+            for (int i = 0; i <= 60; i++) {
+                due("cell", x.cell(k, i, own), p.cell(k, i, own));
             }
         }
     }
